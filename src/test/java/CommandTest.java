@@ -262,6 +262,7 @@ final class CommandTest {
         Probe.is("0 ends", p.house.runs(0, 1), 0);
         p.sent("off 3");
         Probe.is("3 is off", p.house.served(3, 0), 0);
+        Probe.is("no event by all that", p.house.ship(6), 0);
         Probe q = seen();
         q.sent("set v1 250");
         q.sent("add v1 10");

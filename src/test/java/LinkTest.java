@@ -13,6 +13,7 @@ final class LinkTest {
         gaps();
         firsts();
         forgedPackets();
+        checks();
         archives();
         Probe.finish("LinkTest");
     }
@@ -424,6 +425,23 @@ final class LinkTest {
         forge(wraps, 0, 0);
         wraps.house.receive();
         Probe.is("0 is one more than 255", wraps.house.ground(0), 0);
+    }
+
+    /** So many that the CHECK passes by all the values at which it might be counted wrong. */
+    private static void checks() {
+        java.util.Random random = new java.util.Random(3);
+        for (int run = 0; run < 200; run++) {
+            Probe p = ticking(30);
+            for (int i = 0; i < 30; i++) {
+                int[] bytes = new int[22];
+                for (int j = 0; j < 22; j++) {
+                    bytes[j] = random.nextInt(256);
+                }
+                forge(p, 0, bytes);
+                p.house.receive();
+            }
+            Probe.is("none is bad", p.house.ground(1), 0);
+        }
     }
 
     private static void archives() {

@@ -60,6 +60,8 @@ final class OrbitTest {
         Probe.is("the greatest", house.station(3, 3599, 3600, 3599), 1);
         Probe.is("sees at once", house.sight(3, false), 0);
         Probe.is("sees always", house.sight(3, true), -1);
+        Probe.is("width 0", house.station(3, 0, 0, 0), 1);
+        Probe.is("sees never", house.sight(3, false), -1);
     }
 
     private static void sights() {
@@ -123,6 +125,13 @@ final class OrbitTest {
         Probe.is("in turn 1 the arc is at 10, behind THE CLOCK and 20,000", late.sight(0, false), -1);
         late.station(0, 5, 1, 1);
         Probe.is("just at THE CLOCK and 20,000", late.sight(0, false), 20006);
+        MissionHouse beyond = new MissionHouse();
+        beyond.orbit(20000, 0, 0, 0);
+        beyond.station(0, 0, 1, 2);
+        beyond.tick(11);
+        Probe.is("angle 2 of turn 1 is at 20,012: THE CLOCK and 20,001", beyond.sight(0, false), -1);
+        beyond.tick(1);
+        Probe.is("THE CLOCK and 20,000", beyond.sight(0, false), 20012);
         late.station(0, 6, 1, 1);
         Probe.is("seen now", late.sight(0, false), 6);
     }

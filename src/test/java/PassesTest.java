@@ -109,6 +109,17 @@ final class PassesTest {
         Probe.is("0", least.best(0), 1);
         Probe.is("2", least.best(2), 1);
         Probe.is("3", least.best(3), 0);
+        MissionHouse pairs = new MissionHouse();
+        pairs.gap(30);
+        pairs.pass(0, 0, 20, 1);
+        pairs.pass(1, 10, 30, 1);
+        pairs.pass(1, 40, 60, 1);
+        pairs.pass(0, 50, 70, 1);
+        // 0 and 3, or 1 and 2: the one that has 0
+        int[] chosen = {1, 0, 0, 1};
+        for (int i = 0; i < 4; i++) {
+            Probe.is("pairs", pairs.best(i), chosen[i]);
+        }
         Probe.is("gap is looked at anew", least.gap(999), 10);
         Probe.is("0", least.best(0), 1);
         least.pass(1, 0, 10, 3);

@@ -4,6 +4,7 @@ final class PowerTest {
         settings();
         loads();
         serving();
+        untold();
         ranks();
         shadow();
         ticks();
@@ -84,6 +85,19 @@ final class PowerTest {
         p.house.tick(9);
         Probe.is("at most capacity", p.house.ship(3), 50);
         Probe.is("no further event", p.house.ship(6), 1);
+    }
+
+    /** As LOADS are before they are told anything: 0 units, and all served. */
+    private static void untold() {
+        Probe p = switched(255);
+        p.house.tick(1);
+        for (int i = 0; i < 8; i++) {
+            Probe.is("served " + i, p.house.served(i, 1), 1);
+        }
+        Probe.is("used", p.house.ship(4), 0);
+        p.house.load(4, 150, 0);
+        p.house.tick(1);
+        Probe.is("SUN is 100 at first", p.house.ship(3), 950);
     }
 
     private static void ranks() {

@@ -288,6 +288,17 @@ final class ProgramRunTest {
         }
         both.house.tick(1);
         Probe.is("one event", both.house.ship(6), 1);
+        for (String line : new String[] {"until v2 = 0", "if v2 = 0 go 0", "add v2 1", "end", "kill 1", "go 9"}) {
+            Probe next = new Probe();
+            next.program(0, "add v7 1\n".repeat(30));
+            next.program(1, line + "\n");
+            next.house.flip(2, 3);
+            next.house.flip(2, 9);
+            next.house.due(1, 1);
+            next.house.tick(1);
+            variable(next, 7, 0);
+            state(next, 1, 0, -1, 0);
+        }
         Probe ahead = begun("emit 0\nset v1 5\n");
         ahead.house.flip(1, 3);
         ahead.house.tick(1);

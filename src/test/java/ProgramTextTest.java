@@ -54,6 +54,12 @@ final class ProgramTextTest {
         is("on  0\n", -1003);
         is("end 0\n", -1003);
         is("ends\n", -1000);
+        is("endz\n", -1000);
+        is("enda\n", -1000);
+        is("end9\n", -1000);
+        is("in 0\n", -1000);
+        is("xet v0 0\n", -1000);
+        is("set w0 0\n", -1004);
         is("set v8 0\n", -1004);
         is("set v 0\n", -1004);
         is("set v00 0\n", -1004);
@@ -110,6 +116,8 @@ final class ProgramTextTest {
         is("until battery = 1\n", -1006);
         is("until = 1\n", -1006);
         is("until bat 1\n", -1010);
+        is("until bat  1\n", -1010);
+        is("until bat ? 1\n", -1010);
         is("until bat= 1\n", -1009);
         is("until bat == 1\n", -1011);
         is("until bat =1\n", -1011);
@@ -144,6 +152,9 @@ final class ProgramTextTest {
         is(thirty + "e", -1120);
         is(thirty + "\n", -1120);
         is("end\n".repeat(29), 29);
+        P.program(0, thirty);
+        P.program(1, "end\n");
+        Probe.is("lines of 0 alone", P.house.runs(0, 0), 30);
         String wide = "if used > -99999 go 29\n".repeat(30);
         is(wide, 30);
         is("end\n".repeat(28) + "on 9\n", -1115);

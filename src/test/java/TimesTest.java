@@ -122,6 +122,10 @@ final class TimesTest {
             p.house.written(day * 86400 + 3661);
             Probe.is("there and back", p.date(p.out()), day * 86400 + 3661);
         }
+        p.house.written(3600);
+        Probe.is("an hour", p.out(), "2000-01-01T01:00:00");
+        p.house.written(86400 + 23 * 3600);
+        Probe.is("23 hours", p.out(), "2000-01-02T23:00:00");
         p.house.written(59 * 86400 + 45296);
         Probe.is("February 29", p.out(), "2000-02-29T12:34:56");
     }
