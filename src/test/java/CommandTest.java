@@ -13,12 +13,6 @@ final class CommandTest {
         Probe.finish("CommandTest");
     }
 
-    private static Probe seen() {
-        Probe p = new Probe();
-        p.house.station(0, 0, 3600, 0);
-        return p;
-    }
-
     private static void ground(Probe p, int kept, int toSend, int next) {
         Probe.is("kept", p.house.ground(3), kept);
         Probe.is("to be sent", p.house.ground(4), toSend);
@@ -68,7 +62,7 @@ final class CommandTest {
     }
 
     private static void inOrder() {
-        Probe p = seen();
+        Probe p = Probe.seen();
         p.command("on 1");
         p.command("on 2");
         p.command("on 3");
@@ -86,7 +80,7 @@ final class CommandTest {
         p.sent("on 5");
         ship(p, 0, 1);
 
-        Probe twice = seen();
+        Probe twice = Probe.seen();
         twice.command("add v1 1");
         twice.command("add v1 10");
         Probe.is("twice", twice.house.send(2), 1);
@@ -98,7 +92,7 @@ final class CommandTest {
     }
 
     private static void reports() {
-        Probe p = seen();
+        Probe p = Probe.seen();
         p.command("on 0");
         p.command("on 1");
         p.command("on 2");
@@ -138,7 +132,7 @@ final class CommandTest {
 
     /** Reports that come late: those of what was acknowledged before, and flags of what was mended since. */
     private static void oldReports() {
-        Probe p = seen();
+        Probe p = Probe.seen();
         p.sent("on 0");
         p.house.tick(2);
         p.command("on 1");
@@ -165,7 +159,7 @@ final class CommandTest {
         p.house.receive();
         ground(p, 0, 0, 4);
 
-        Probe again = seen();
+        Probe again = Probe.seen();
         again.sent("on 0");
         again.command("on 1");
         again.command("on 2");
@@ -184,45 +178,31 @@ final class CommandTest {
         again.house.receive();
         ground(again, 0, 0, 3);
         ship(again, 3, 0);
-        Probe beyond = seen();
+        Probe beyond = Probe.seen();
         beyond.sent("on 0");
         beyond.house.tick(1);
         beyond.command("on 1");
-        forgeReport(beyond, 3, 0);
+        beyond.forge(1, 3, 0);
         beyond.house.receive();
         ground(beyond, 2, 1, 2);
         beyond.house.tick(1);
-        forgeReport(beyond, 3, 1);
+        beyond.forge(1, 3, 1);
         beyond.house.receive();
         ground(beyond, 2, 2, 2);
         beyond.house.tick(1);
-        forgeReport(beyond, 2, 0);
+        beyond.forge(1, 2, 0);
         beyond.house.receive();
         ground(beyond, 0, 0, 2);
-        Probe flags = seen();
+        Probe flags = Probe.seen();
         flags.sent("on 0");
         flags.house.tick(1);
-        forgeReport(flags, 0, 3);
+        flags.forge(1, 0, 3);
         flags.house.receive();
         ground(flags, 1, 0, 1);
     }
 
-    private static void forgeReport(Probe p, int report, int flags) {
-        int[] frame = new int[24];
-        for (int i = 0; i < 24; i++) {
-            frame[i] = p.house.noise(i, 0);
-        }
-        p.house.noise(1, frame[1] ^ report);
-        p.house.noise(2, frame[2] ^ flags);
-        frame[1] = report;
-        frame[2] = flags;
-        int check = Crc.of(frame);
-        p.house.noise(22, frame[22] ^ check >> 8);
-        p.house.noise(23, frame[23] ^ check & 255);
-    }
-
     private static void wrapping() {
-        Probe p = seen();
+        Probe p = Probe.seen();
         p.sent("on 0");
         for (int i = 1; i < 300; i++) {
             Probe.is("number", p.command("add v7 1"), i % 256);
@@ -238,7 +218,7 @@ final class CommandTest {
     }
 
     private static void doing() {
-        Probe p = seen();
+        Probe p = Probe.seen();
         p.house.mode(2, 0b1001, 0b1);
         p.program(0, "wait 50\n");
         p.program(1, "wait 50\n");
@@ -263,7 +243,7 @@ final class CommandTest {
         p.sent("off 3");
         Probe.is("3 is off", p.house.served(3, 0), 0);
         Probe.is("no event by all that", p.house.ship(6), 0);
-        Probe q = seen();
+        Probe q = Probe.seen();
         q.sent("set v1 250");
         q.sent("add v1 10");
         Probe.is("add is mod 256", q.house.word(1, 1), 4);
@@ -275,7 +255,7 @@ final class CommandTest {
         Probe.is("sent", q.house.receive(), 1);
         q.house.packet(0);
         Probe.is("with the clock of the command", q.outNumbers(), "11 0 0 5 2 0 4");
-        Probe none = seen();
+        Probe none = Probe.seen();
         none.sent("run 6");
         Probe.is("a program without lines runs", none.house.runs(6, 1), 1);
         none.house.tick(1);
@@ -283,7 +263,7 @@ final class CommandTest {
     }
 
     private static void lost() {
-        Probe p = seen();
+        Probe p = Probe.seen();
         p.house.flip(1, 3);
         p.house.flip(1, 9);
         int bits = p.house.word(1, 0);
@@ -310,7 +290,7 @@ final class CommandTest {
     }
 
     private static void drafts() {
-        Probe p = seen();
+        Probe p = Probe.seen();
         p.program(2, "wait 70\nend\n");
         p.sent("run 2");
         p.house.tick(1);

@@ -18,13 +18,6 @@ final class LinkTest {
         Probe.finish("LinkTest");
     }
 
-    /** A ship that a station sees always. */
-    private static Probe seen() {
-        Probe p = new Probe();
-        p.house.station(0, 0, 3600, 0);
-        return p;
-    }
-
     private static String oldest(Probe p) {
         StringBuilder text = new StringBuilder();
         for (int i = 0; i < 22; i++) {
@@ -34,7 +27,7 @@ final class LinkTest {
     }
 
     private static void packets() {
-        Probe p = seen();
+        Probe p = Probe.seen();
         p.program(0, "set v0 200\nset v1 3\nset v3 9\nemit 15\nemit 4\nemit 15\non 0\n");
         p.house.due(300, 0);
         p.house.tick(300);
@@ -158,7 +151,7 @@ final class LinkTest {
         p.house.power(0, 9);
         p.house.tick(100);
         Probe.is("not served", p.house.ship(14), 3);
-        Probe off = seen();
+        Probe off = Probe.seen();
         off.program(0, "on 0\nwait 1\noff 0\n");
         off.house.due(1, 0);
         off.house.tick(2);
@@ -168,7 +161,7 @@ final class LinkTest {
     }
 
     private static void frames() {
-        Probe p = seen();
+        Probe p = Probe.seen();
         p.sent("on 0");
         p.sent("set v0 77");
         p.sent("set v1 78");
@@ -201,7 +194,7 @@ final class LinkTest {
     }
 
     private static void splitPackets() {
-        Probe p = seen();
+        Probe p = Probe.seen();
         p.sent("on 0");
         p.program(0, "emit 3\nemit 3\nemit 0\nemit 2\nemit 3\n");
         p.house.due(1, 0);
@@ -216,14 +209,14 @@ final class LinkTest {
         Probe.is("pieced", p.outNumbers(), "13 2 0 1 4 0 0 0 0");
         Probe.is("empty", p.house.receive(), 0);
         Probe.is("no gap", p.house.ground(0), 0);
-        Probe under = seen();
+        Probe under = Probe.seen();
         under.sent("on 0");
         under.program(0, "emit 3\nemit 3\nemit 3\nemit 3\nwait 1\nemit 0\n");
         under.house.due(1, 0);
         under.house.tick(1);
         Probe.is("two went", under.house.ship(10), 2);
         Probe.is("two went", under.house.ship(9), 18);
-        Probe begins = seen();
+        Probe begins = Probe.seen();
         begins.sent("on 0");
         begins.program(0, "emit 2\nemit 2\nemit 2\nwait 1\nemit 0\nemit 3\n");
         begins.house.due(1, 0);
@@ -237,7 +230,7 @@ final class LinkTest {
     }
 
     private static void manyFrames() {
-        Probe p = seen();
+        Probe p = Probe.seen();
         p.sent("on 0");
         p.house.tick(30);
         Probe.is("30 wait", p.house.ship(14), 30);
@@ -268,7 +261,7 @@ final class LinkTest {
     }
 
     private static void order() {
-        Probe p = seen();
+        Probe p = Probe.seen();
         p.program(0, "emit 12\nemit 5\nemit 8\nemit 1\nemit 4\nemit 0\non 0\n");
         p.house.due(1, 0);
         p.house.tick(6);
@@ -286,7 +279,7 @@ final class LinkTest {
 
     private static void bad() {
         for (int i = 0; i < 24; i++) {
-            Probe p = seen();
+            Probe p = Probe.seen();
             p.sent("on 0");
             p.house.tick(1);
             p.house.noise(i, 0x40);
@@ -308,7 +301,7 @@ final class LinkTest {
     }
 
     private static void gaps() {
-        Probe p = seen();
+        Probe p = Probe.seen();
         p.sent("on 0");
         p.program(0, "emit 3\nemit 3\nemit 0\nemit 2\nemit 3\nemit 0\nemit 0\n");
         p.house.due(1, 0);
@@ -319,7 +312,7 @@ final class LinkTest {
         Probe.is("without the rest of it", p.house.receive(), 0);
         Probe.is("a gap", p.house.ground(0), 1);
         Probe.is("four alone", p.house.ground(2), 4);
-        Probe q = seen();
+        Probe q = Probe.seen();
         q.sent("on 0");
         q.program(0, "emit 3\nemit 3\nemit 0\nemit 2\nemit 3\nemit 0\nemit 0\n");
         q.house.due(1, 0);
@@ -331,7 +324,7 @@ final class LinkTest {
         Probe.is("a gap", q.house.ground(0), 1);
         Probe.is("the fourth", q.house.receive(), 0);
         Probe.is("no further gap", q.house.ground(0), 1);
-        Probe started = seen();
+        Probe started = Probe.seen();
         started.sent("on 0");
         started.program(0, "emit 3\nemit 3\nemit 0\nemit 2\nemit 3\nemit 0\nemit 0\n");
         started.house.due(1, 0);
@@ -342,87 +335,65 @@ final class LinkTest {
         Probe.is("without a gap", started.house.ground(0), 0);
     }
 
-    /** Makes the oldest frame what the bytes say, from a place on, with a right CHECK. */
-    private static void forge(Probe p, int from, int... bytes) {
-        int[] frame = new int[24];
-        for (int i = 0; i < 24; i++) {
-            frame[i] = p.house.noise(i, 0);
-        }
-        for (int i = 0; i < bytes.length; i++) {
-            p.house.noise(from + i, frame[from + i] ^ bytes[i]);
-            frame[from + i] = bytes[i];
-        }
-        int check = Crc.of(frame);
-        p.house.noise(22, frame[22] ^ check >> 8);
-        p.house.noise(23, frame[23] ^ check & 255);
-    }
-
-    private static Probe ticking(int frames) {
-        Probe p = seen();
-        p.sent("on 0");
-        p.house.tick(frames);
-        return p;
-    }
-
     private static void firsts() {
         int[] packet = {0, 0, 0, 10, 5, 0, 9, 1, 8, 7};
         for (int first = 0; first <= 255; first++) {
-            Probe p = ticking(1);
-            forge(p, 4, packet);
-            forge(p, 3, first);
+            Probe p = Probe.sending(1);
+            p.forge(4, packet);
+            p.forge(3, first);
             int due = first == 3 ? 1 : 0;
             Probe.is("FIRST " + first, p.house.receive(), due);
         }
-        Probe late = ticking(2);
-        forge(late, 3, 17);
-        forge(late, 21, 12);
+        Probe late = Probe.sending(2);
+        late.forge(3, 17);
+        late.forge(21, 12);
         Probe.is("the last place", late.house.receive(), 0);
-        forge(late, 4, 0, 0, 0, 1, 6, 0, 0);
+        late.forge(4, 0, 0, 0, 1, 6, 0, 0);
         Probe.is("goes on in the next frame", late.house.receive(), 1);
         Probe.is("bytes", late.house.packet(0), 6);
         Probe.is("bytes", late.outNumbers(), "12 0 0 0 1 6");
-        Probe ignored = ticking(2);
+        Probe ignored = Probe.sending(2);
         ignored.house.receive();
-        forge(ignored, 3, 2, 10, 0, 0, 0, 1, 55);
+        ignored.forge(3, 2, 10, 0, 0, 0, 1, 55);
         Probe.is("without a gap FIRST does not matter", ignored.house.receive(), 1);
-        Probe nothing = ticking(3);
-        forge(nothing, 3, 255, 10, 0, 0, 0, 1, 55);
+        Probe nothing = Probe.sending(3);
+        nothing.forge(3, 255, 10, 0, 0, 0, 1, 55);
         Probe.is("255: nothing of this frame", nothing.house.receive(), 0);
-        forge(nothing, 3, 255, 10, 0, 0, 0, 1, 56);
+        nothing.forge(3, 255, 10, 0, 0, 0, 1, 56);
         Probe.is("then at place 0", nothing.house.receive(), 1);
-        forge(nothing, 0, 9, 0, 0, 18, 10, 0, 0, 0, 1, 55);
+        nothing.forge(0, 9, 0, 0, 18, 10, 0, 0, 0, 1, 55);
         Probe.is("18 in a gap: nothing", nothing.house.receive(), 0);
         Probe.is("a gap", nothing.house.ground(0), 1);
     }
 
     private static void forgedPackets() {
         for (int kind : new int[] {9, 10, 25, 26, 0, 255}) {
-            Probe p = ticking(1);
-            forge(p, 3, 0, kind, 1, 2, 3, 1, 5);
+            Probe p = Probe.sending(1);
+            p.forge(3, 0, kind, 1, 2, 3, 1, 5);
             Probe.is("kind byte " + kind, p.house.receive(), kind == 10 || kind == 25 ? 1 : 0);
         }
         for (int data = 0; data < 256; data += data == 5 ? 249 : 1) {
-            Probe p = ticking(2);
-            forge(p, 3, 0, 10, 1, 2, 3, data, 12, 12, 12, 12, 12, 12, 12, 12, 1, 12, 12, 12, 12);
+            Probe p = Probe.sending(2);
+            p.forge(3, 0, 10, 1, 2, 3, data, 12, 12, 12, 12, 12, 12, 12, 12, 1, 12, 12, 12, 12);
             int whole = p.house.receive();
             Probe.is("data " + data + ": one at least", Math.min(whole, 1), data >= 1 && data <= 4 ? 1 : 0);
             if (whole == 0) {
-                forge(p, 4, 11, 0, 0, 0, 1, 1);
+                p.forge(4, 11, 0, 0, 0, 1, 1);
                 Probe.is("dropped: the next begins at place 0", p.house.receive(), 1);
             }
         }
-        Probe ends = ticking(1);
-        forge(ends, 3, 0, 10, 0, 0, 0, 1, 5, 3, 10, 0, 0, 0, 1, 5);
+        Probe ends = Probe.sending(1);
+        ends.forge(3, 0, 10, 0, 0, 0, 1, 5, 3, 10, 0, 0, 0, 1, 5);
         Probe.is("a byte that is none ends the data", ends.house.receive(), 1);
-        Probe split = ticking(2);
-        forge(split, 3, 14, 0, 0, 0, 0, 0, 0, 0, 0, 0, 0, 0, 0, 0, 0, 10, 0, 0, 0);
+        Probe split = Probe.sending(2);
+        split.forge(3, 14, 0, 0, 0, 0, 0, 0, 0, 0, 0, 0, 0, 0, 0, 0, 10, 0, 0, 0);
         Probe.is("four bytes", split.house.receive(), 0);
-        forge(split, 4, 9, 10, 0, 0, 0, 1, 5);
+        split.forge(4, 9, 10, 0, 0, 0, 1, 5);
         Probe.is("its number of data is wrong in the next frame", split.house.receive(), 0);
-        Probe wraps = ticking(2);
-        forge(wraps, 0, 255);
+        Probe wraps = Probe.sending(2);
+        wraps.forge(0, 255);
         wraps.house.receive();
-        forge(wraps, 0, 0);
+        wraps.forge(0, 0);
         wraps.house.receive();
         Probe.is("0 is one more than 255", wraps.house.ground(0), 0);
     }
@@ -431,13 +402,13 @@ final class LinkTest {
     private static void checks() {
         java.util.Random random = new java.util.Random(3);
         for (int run = 0; run < 200; run++) {
-            Probe p = ticking(30);
+            Probe p = Probe.sending(30);
             for (int i = 0; i < 30; i++) {
                 int[] bytes = new int[22];
                 for (int j = 0; j < 22; j++) {
                     bytes[j] = random.nextInt(256);
                 }
-                forge(p, 0, bytes);
+                p.forge(0, bytes);
                 p.house.receive();
             }
             Probe.is("none is bad", p.house.ground(1), 0);
@@ -445,10 +416,10 @@ final class LinkTest {
     }
 
     private static void archives() {
-        Probe p = ticking(30);
+        Probe p = Probe.sending(30);
         int whole = 0;
         for (int i = 0; i < 30; i++) {
-            forge(p, 3, 0, 10, i, 0, 0, 1, 1, 10, i, 0, 0, 1, 2, 10, i, 0, 0, 1, 3);
+            p.forge(3, 0, 10, i, 0, 0, 1, 1, 10, i, 0, 0, 1, 2, 10, i, 0, 0, 1, 3);
             whole += p.house.receive();
         }
         Probe.is("those that find no place are counted, too", whole, 90);

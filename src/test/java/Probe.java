@@ -4,14 +4,20 @@ import java.nio.charset.StandardCharsets;
 final class Probe {
     private static int wrong;
     private static int asked;
+    private static String about = "";
 
     final MissionHouse house = new MissionHouse();
+
+    /** What is tested by all that follows; it is told ahead of each answer that is wrong. */
+    static void about(String sentence) {
+        about = sentence + ": ";
+    }
 
     static void is(String what, long got, long want) {
         asked++;
         if (got != want) {
             wrong++;
-            System.out.println(what + ": answered " + got + ", due is " + want);
+            System.out.println(about + what + ": answered " + got + ", due is " + want);
         }
     }
 
@@ -19,8 +25,31 @@ final class Probe {
         asked++;
         if (!got.equals(want)) {
             wrong++;
-            System.out.println(what + ": answered '" + got + "', due is '" + want + "'");
+            System.out.println(about + what + ": answered '" + got + "', due is '" + want + "'");
         }
+    }
+
+    /** A ship that a station sees always. */
+    static Probe seen() {
+        Probe p = new Probe();
+        p.house.station(0, 0, 3600, 0);
+        return p;
+    }
+
+    /** A ship that is seen, its LOAD 0 on, so that each tick sends a frame down: so many wait. */
+    static Probe sending(int frames) {
+        Probe p = seen();
+        p.sent("on 0");
+        p.house.tick(frames);
+        return p;
+    }
+
+    /** Program 0 has this text and is begun at CLOCK 1. */
+    static Probe begun(String text) {
+        Probe p = new Probe();
+        p.program(0, text);
+        p.house.due(1, 0);
+        return p;
     }
 
     static void finish(String name) {
@@ -77,6 +106,38 @@ final class Probe {
     int sent(String text) {
         command(text);
         return house.send(0);
+    }
+
+    int[] oldestFrame() {
+        int[] frame = new int[24];
+        for (int i = 0; i < 24; i++) {
+            frame[i] = house.noise(i, 0);
+        }
+        return frame;
+    }
+
+    /** Makes the oldest frame what the bytes say, from a place on, with a right CHECK. */
+    Probe forge(int from, int... bytes) {
+        int[] frame = oldestFrame();
+        for (int i = 0; i < bytes.length; i++) {
+            house.noise(from + i, frame[from + i] ^ bytes[i]);
+            frame[from + i] = bytes[i];
+        }
+        int check = Crc.of(frame);
+        house.noise(22, frame[22] ^ check >> 8);
+        house.noise(23, frame[23] ^ check & 255);
+        return this;
+    }
+
+    /** Whether a program runs, the line that is next, and how long it waits. */
+    void state(int k, int runs, int next, int waits) {
+        is("runs " + k, house.runs(k, 1), runs);
+        is("next " + k, house.runs(k, 2), next);
+        is("waits " + k, house.runs(k, 3), waits);
+    }
+
+    void variable(int v, int due) {
+        is("v" + v, house.word(v, 1), due);
     }
 
     String out() {
