@@ -13,29 +13,18 @@ final class CommandTest {
         Probe.finish("CommandTest");
     }
 
-    private static void ground(Probe p, int kept, int toSend, int next) {
-        Probe.is("kept", p.house.ground(3), kept);
-        Probe.is("to be sent", p.house.ground(4), toSend);
-        Probe.is("next number", p.house.ground(5), next);
-    }
-
-    private static void ship(Probe p, int awaited, int flags) {
-        Probe.is("awaited", p.house.ship(11), awaited);
-        Probe.is("flags", p.house.ship(12), flags);
-    }
-
     private static void telling() {
         Probe p = new Probe();
         Probe.is("what -1", p.house.ground(-1), -1);
         Probe.is("what 6", p.house.ground(6), -1);
         for (int i = 0; i < 8; i++) {
             Probe.is("number", p.command("on " + i), i);
-            ground(p, i + 1, i + 1, i + 1);
+            p.commands(i + 1, i + 1, i + 1);
         }
         p.tape("on 0");
         Probe.is("a ninth", p.house.command(), -4);
         Probe.is("FULL leaves the tape", p.tapeSize(), 4);
-        ground(p, 8, 8, 8);
+        p.commands(8, 8, 8);
         Probe.is("FULL is told ahead of WRONG", p.command("x"), -4);
         Probe q = new Probe();
         Probe.is("wrong", q.command("x"), -1000);
@@ -46,18 +35,18 @@ final class CommandTest {
         Probe p = new Probe();
         p.command("on 3");
         Probe.is("no station sees the ship", p.house.send(0), -1);
-        ground(p, 1, 1, 1);
+        p.commands(1, 1, 1);
         p.house.station(2, 5, 1, 0);
         Probe.is("not yet", p.house.send(0), -1);
         p.house.station(2, 0, 1, 0);
         Probe.is("how -1", p.house.send(-1), -1);
         Probe.is("how 3", p.house.send(3), -1);
-        ground(p, 1, 1, 1);
+        p.commands(1, 1, 1);
         Probe.is("not done yet", p.house.served(3, 0), 0);
         Probe.is("well", p.house.send(0), 1);
         Probe.is("done at once", p.house.served(3, 0), 1);
-        ground(p, 1, 0, 1);
-        ship(p, 1, 0);
+        p.commands(1, 0, 1);
+        p.awaits(1, 0);
         Probe.is("none is to be sent", p.house.send(0), -1);
     }
 
@@ -68,26 +57,26 @@ final class CommandTest {
         p.command("on 3");
         p.command("on 4");
         Probe.is("lost", p.house.send(1), 0);
-        ground(p, 4, 3, 4);
-        ship(p, 0, 0);
+        p.commands(4, 3, 4);
+        p.awaits(0, 0);
         Probe.is("nothing is done", p.house.served(1, 0), 0);
         Probe.is("another number", p.house.send(0), 0);
-        ship(p, 0, 1);
+        p.awaits(0, 1);
         Probe.is("it is gone", p.house.served(2, 0), 0);
         Probe.is("twice another number", p.house.send(2), 0);
-        ship(p, 0, 1);
-        ground(p, 4, 1, 4);
+        p.awaits(0, 1);
+        p.commands(4, 1, 4);
         p.sent("on 5");
-        ship(p, 0, 1);
+        p.awaits(0, 1);
 
         Probe twice = Probe.seen();
         twice.command("add v1 1");
         twice.command("add v1 10");
         Probe.is("twice", twice.house.send(2), 1);
-        ship(twice, 1, 1);
+        twice.awaits(1, 1);
         Probe.is("done once", twice.house.word(1, 1), 1);
         Probe.is("the next one", twice.house.send(0), 1);
-        ship(twice, 2, 0);
+        twice.awaits(2, 0);
         Probe.is("done", twice.house.word(1, 1), 11);
     }
 
@@ -100,34 +89,34 @@ final class CommandTest {
         p.house.send(0);
         p.house.send(0);
         p.house.tick(1);
-        ground(p, 4, 2, 4);
+        p.commands(4, 2, 4);
         Probe.is("a frame with report 2", p.house.receive(), 0);
-        ground(p, 2, 2, 4);
+        p.commands(2, 2, 4);
         p.house.send(1);
         p.house.send(0);
-        ground(p, 2, 0, 4);
-        ship(p, 2, 1);
+        p.commands(2, 0, 4);
+        p.awaits(2, 1);
         p.command("on 4");
         p.house.tick(1);
         p.house.receive();
-        ground(p, 3, 3, 5);
+        p.commands(3, 3, 5);
         Probe.is("sent again", p.house.send(0), 1);
         Probe.is("2 is on", p.house.served(2, 0), 1);
         Probe.is("sent again", p.house.send(0), 1);
         Probe.is("3 is on", p.house.served(3, 0), 1);
-        ground(p, 3, 1, 5);
+        p.commands(3, 1, 5);
         p.house.tick(1);
         p.house.noise(5, 1);
         Probe.is("a bad frame", p.house.receive(), -2);
-        ground(p, 3, 1, 5);
+        p.commands(3, 1, 5);
         p.house.tick(1);
         p.house.receive();
-        ground(p, 1, 1, 5);
+        p.commands(1, 1, 5);
         Probe.is("the last", p.house.send(0), 1);
         Probe.is("4 is on", p.house.served(4, 0), 1);
         p.house.tick(1);
         p.house.receive();
-        ground(p, 0, 0, 5);
+        p.commands(0, 0, 5);
     }
 
     /** Reports that come late: those of what was acknowledged before, and flags of what was mended since. */
@@ -137,27 +126,27 @@ final class CommandTest {
         p.house.tick(2);
         p.command("on 1");
         p.house.receive();
-        ground(p, 1, 1, 2);
+        p.commands(1, 1, 2);
         p.house.send(0);
         p.house.receive();
-        ground(p, 1, 0, 2);
+        p.commands(1, 0, 2);
         p.house.tick(1);
         p.command("on 2");
         p.command("on 3");
         p.house.send(1);
         p.house.send(0);
         p.house.tick(1);
-        ship(p, 2, 1);
+        p.awaits(2, 1);
         p.house.receive();
-        ground(p, 2, 0, 4);
+        p.commands(2, 0, 4);
         p.house.receive();
-        ground(p, 2, 2, 4);
+        p.commands(2, 2, 4);
         p.house.send(0);
         p.house.send(0);
         p.house.tick(1);
         Probe.is("one wait", p.house.ship(14), 1);
         p.house.receive();
-        ground(p, 0, 0, 4);
+        p.commands(0, 0, 4);
 
         Probe again = Probe.seen();
         again.sent("on 0");
@@ -167,38 +156,38 @@ final class CommandTest {
         again.house.send(0);
         again.house.tick(1);
         again.house.receive();
-        ground(again, 2, 2, 3);
+        again.commands(2, 2, 3);
         again.house.tick(1);
         again.house.send(0);
         again.house.send(0);
         again.house.tick(1);
-        ground(again, 2, 0, 3);
+        again.commands(2, 0, 3);
         again.house.receive();
-        ground(again, 2, 2, 3);
+        again.commands(2, 2, 3);
         again.house.receive();
-        ground(again, 0, 0, 3);
-        ship(again, 3, 0);
+        again.commands(0, 0, 3);
+        again.awaits(3, 0);
         Probe beyond = Probe.seen();
         beyond.sent("on 0");
         beyond.house.tick(1);
         beyond.command("on 1");
         beyond.forge(1, 3, 0);
         beyond.house.receive();
-        ground(beyond, 2, 1, 2);
+        beyond.commands(2, 1, 2);
         beyond.house.tick(1);
         beyond.forge(1, 3, 1);
         beyond.house.receive();
-        ground(beyond, 2, 2, 2);
+        beyond.commands(2, 2, 2);
         beyond.house.tick(1);
         beyond.forge(1, 2, 0);
         beyond.house.receive();
-        ground(beyond, 0, 0, 2);
+        beyond.commands(0, 0, 2);
         Probe flags = Probe.seen();
         flags.sent("on 0");
         flags.house.tick(1);
         flags.forge(1, 0, 3);
         flags.house.receive();
-        ground(flags, 1, 0, 1);
+        flags.commands(1, 0, 1);
     }
 
     private static void wrapping() {
@@ -210,10 +199,10 @@ final class CommandTest {
             if (i % 4 == 0) {
                 p.house.tick(1);
                 p.house.receive();
-                ground(p, 0, 0, (i + 1) % 256);
+                p.commands(0, 0, (i + 1) % 256);
             }
         }
-        ship(p, 300 % 256, 0);
+        p.awaits(300 % 256, 0);
         Probe.is("all were done", p.house.word(7, 1), 299 % 256);
     }
 
@@ -276,7 +265,7 @@ final class CommandTest {
         Probe.is("an event", p.house.ship(6), 2);
         Probe.is("alone", p.house.word(1, 0), bits);
         Probe.is("programs go on", p.house.runs(0, 1), 1);
-        ship(p, 3, 0);
+        p.awaits(3, 0);
         p.sent("emit 0");
         Probe.is("what is not read does not matter", p.house.ship(6), 2);
         p.sent("set v1 3");

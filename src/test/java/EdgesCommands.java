@@ -20,17 +20,6 @@ final class EdgesCommands {
         readyOfNothing();
     }
 
-    private static void ground(Probe p, int kept, int toSend, int next) {
-        Probe.is("kept", p.house.ground(3), kept);
-        Probe.is("to be sent", p.house.ground(4), toSend);
-        Probe.is("the next number", p.house.ground(5), next);
-    }
-
-    private static void ship(Probe p, int awaited, int flags) {
-        Probe.is("awaited", p.house.ship(11), awaited);
-        Probe.is("FLAGS", p.house.ship(12), flags);
-    }
-
     private static void texts() {
         Doc.says("Part VIII", "A command is a line of Part VI (without its byte 10), but no until, wait, if, go, end; or line K N and a blank and a line of Part VI"
             + " (its line N, 0 .. 29, of the DRAFT of PROGRAM K, 0 .. 7)");
@@ -56,11 +45,11 @@ final class EdgesCommands {
         Probe p = new Probe();
         for (int i = 0; i < 8; i++) {
             Probe.is("number", p.command("on " + i), i);
-            ground(p, i + 1, i + 1, i + 1);
+            p.commands(i + 1, i + 1, i + 1);
         }
         Probe wrong = new Probe();
         Probe.is("wrong", wrong.command("on 8"), -1003);
-        ground(wrong, 0, 0, 0);
+        wrong.commands(0, 0, 0);
         Probe.is("it had no number", wrong.command("on 7"), 0);
     }
 
@@ -81,7 +70,7 @@ final class EdgesCommands {
         p.tape("on 5");
         Probe.is("a ninth", p.house.command(), -4);
         Probe.is("THE TAPE stays", p.tapeSize(), 4);
-        ground(p, 8, 8, 8);
+        p.commands(8, 8, 8);
         Probe.is("still", p.house.command(), -4);
         Probe.is("a wrong one, too", p.command("x"), -4);
         Probe.is("THE TAPE stays", p.tapeSize(), 5);
@@ -93,10 +82,10 @@ final class EdgesCommands {
         p.house.tick(1);
         p.forge(1, 1);
         p.house.receive();
-        ground(p, 7, 0, 8);
+        p.commands(7, 0, 8);
         Probe.is("one was acknowledged", p.house.command(), 8);
         Probe.is("THE TAPE is empty", p.tapeSize(), 0);
-        ground(p, 8, 1, 9);
+        p.commands(8, 1, 9);
         Probe.is("full again", p.command("on 0"), -4);
         Probe.is("an empty tape, too", new Probe().command(""), -1000);
         Twins.refused("a ninth", Twins::full, -4, house -> house.command());
@@ -118,23 +107,23 @@ final class EdgesCommands {
     private static void numbersAround() {
         Doc.says("Part VIII", "THE GROUND numbers them, from 0 on, mod 256, and keeps those not acknowledged, at most 8.");
         Probe p = numbered(253);
-        ground(p, 0, 0, 253);
-        ship(p, 253, 0);
+        p.commands(0, 0, 253);
+        p.awaits(253, 0);
         int[] numbers = {253, 254, 255, 0, 1, 2, 3, 4};
         for (int number : numbers) {
             Probe.is("number", p.command("add v7 1"), number);
         }
-        ground(p, 8, 8, 5);
+        p.commands(8, 8, 5);
         for (int number : numbers) {
-            ship(p, number, 0);
+            p.awaits(number, 0);
             Probe.is("ACCEPTED", p.house.send(0), 1);
         }
         p.variable(7, 8);
-        ship(p, 5, 0);
+        p.awaits(5, 0);
         p.house.tick(1);
         Probe.is("REPORT", p.house.noise(1, 0), 5);
         p.house.receive();
-        ground(p, 0, 0, 5);
+        p.commands(0, 0, 5);
     }
 
     private static void sent() {
@@ -143,30 +132,30 @@ final class EdgesCommands {
         well.command("add v1 1");
         Probe.is("well", well.house.send(0), 1);
         well.variable(1, 1);
-        ship(well, 1, 0);
-        ground(well, 1, 0, 1);
+        well.awaits(1, 0);
+        well.commands(1, 0, 1);
         Probe lost = Probe.seen();
         lost.command("add v1 1");
         Probe.is("lost", lost.house.send(1), 0);
         lost.variable(1, 0);
-        ship(lost, 0, 0);
-        ground(lost, 1, 0, 1);
+        lost.awaits(0, 0);
+        lost.commands(1, 0, 1);
         Probe twice = Probe.seen();
         twice.command("add v1 1");
         Probe.is("twice", twice.house.send(2), 1);
         twice.variable(1, 1);
-        ship(twice, 1, 1);
-        ground(twice, 1, 0, 1);
+        twice.awaits(1, 1);
+        twice.commands(1, 0, 1);
         Probe other = Probe.seen();
         other.command("add v1 1");
         other.command("add v1 2");
         other.command("add v1 4");
         other.house.send(1);
         Probe.is("another number", other.house.send(0), 0);
-        ship(other, 0, 1);
+        other.awaits(0, 1);
         Probe.is("another number, twice", other.house.send(2), 0);
         other.variable(1, 0);
-        ship(other, 0, 1);
+        other.awaits(0, 1);
     }
 
     private static void refusedSends() {
@@ -179,13 +168,13 @@ final class EdgesCommands {
             none.command("on 0");
             none.house.send(0);
             Probe.is("all were sent", none.house.send(how), -1);
-            ship(none, 1, 0);
+            none.awaits(1, 0);
             Probe unseen = new Probe();
             unseen.command("on 1");
             Probe.is("no station", unseen.house.send(how), -1);
-            ground(unseen, 1, 1, 1);
+            unseen.commands(1, 1, 1);
             Probe.is("not done", unseen.house.served(1, 0), 0);
-            ship(unseen, 0, 0);
+            unseen.awaits(0, 0);
             Twins.refused("no station", () -> {
                 Probe p = Twins.busy();
                 for (int station = 0; station < 4; station++) {
@@ -195,7 +184,7 @@ final class EdgesCommands {
             }, -1, house -> house.send(h));
             Twins.refused("none is to be sent", () -> {
                 Probe p = Twins.busy();
-                while (p.house.ground(4) > 0) {
+                for (int i = p.house.ground(4); i > 0; i--) {
                     p.house.send(1);
                 }
                 return p;
@@ -217,7 +206,7 @@ final class EdgesCommands {
             Probe.is("at 5", p.house.send(0), 1);
             p.house.tick(2);
             Probe.is("at 7", p.house.send(0), -1);
-            ground(p, 2, 1, 2);
+            p.commands(2, 1, 2);
         }
     }
 
@@ -229,19 +218,19 @@ final class EdgesCommands {
             p.command("on " + i);
         }
         p.house.send(0);
-        ship(p, 2, 0);
+        p.awaits(2, 0);
         Probe.is("done at once", p.house.served(1, 0), 1);
         p.house.send(1);
-        ship(p, 2, 0);
+        p.awaits(2, 0);
         p.house.send(0);
-        ship(p, 2, 1);
+        p.awaits(2, 1);
         Probe.is("it is gone", p.house.served(3, 0), 0);
         p.house.tick(1);
         p.house.receive();
-        ground(p, 3, 3, 5);
+        p.commands(3, 3, 5);
         p.house.send(0);
         Probe.is("ACCEPTED: FLAGS are 0", p.house.ship(12), 0);
-        ship(p, 3, 0);
+        p.awaits(3, 0);
         Probe.is("done at once", p.house.served(2, 0), 1);
         Probe.is("the others are not", p.house.served(3, 0) + p.house.served(4, 0), 0);
     }
@@ -285,7 +274,7 @@ final class EdgesCommands {
         Probe bad = Probe.sending(1);
         bad.house.noise(1, 7);
         bad.house.receive();
-        ground(bad, 1, 0, 1);
+        bad.commands(1, 0, 1);
     }
 
     private static void reportsAround() {
@@ -302,7 +291,7 @@ final class EdgesCommands {
                     p.house.receive();
                     boolean acknowledges = ahead >= 0 && ahead <= kept;
                     int left = acknowledges ? kept - ahead : kept;
-                    ground(p, left, left, oldest + kept & 255);
+                    p.commands(left, left, oldest + kept & 255);
                 }
             }
         }
@@ -320,16 +309,16 @@ final class EdgesCommands {
         }
         p.house.tick(1);
         p.house.receive();
-        ground(p, 6, 6, 8);
+        p.commands(6, 6, 8);
         for (int i = 0; i < 6; i++) {
-            ship(p, 2 + i, i == 0 ? 1 : 0);
+            p.awaits(2 + i, i == 0 ? 1 : 0);
             Probe.is("from the oldest on", p.house.send(0), 1);
         }
-        ship(p, 8, 0);
+        p.awaits(8, 0);
         Probe.is("none is left", p.house.send(0), -1);
         p.house.tick(1);
         p.house.receive();
-        ground(p, 0, 0, 8);
+        p.commands(0, 0, 8);
     }
 
     private static void done() {
@@ -393,7 +382,7 @@ final class EdgesCommands {
                 boolean reads = text.startsWith("add") || text.startsWith("emit") && v <= Integer.parseInt(text.substring(5)) % 4;
                 Probe.is("ACCEPTED", p.sent(text), 1);
                 Probe.is("an EVENT by " + text, p.house.ship(6), reads ? 1 : 0);
-                ship(p, 2, 0);
+                p.awaits(2, 0);
                 p.state(0, 1, 0, 0);
                 if (reads) {
                     Probe.is("alone", p.house.ship(10), 0);
@@ -432,6 +421,9 @@ final class EdgesCommands {
             p.variable(k, 17);
         }
         Probe full = Probe.sending(0);
+        full.sent("line 6 29 add v0 1");
+        full.house.tick(1);
+        full.house.receive();
         for (int n = 29; n >= 0; n--) {
             full.sent("line 7 " + n + " add v0 1");
             full.house.tick(1);
@@ -443,6 +435,38 @@ final class EdgesCommands {
         full.house.tick(4);
         full.variable(0, 30);
         full.state(7, 0, -1, 0);
+        Probe side = Probe.sending(0);
+        side.sent("line 4 0 add v4 1");
+        for (int n = 0; n < 30; n++) {
+            side.sent("line 3 " + n + " add v3 1");
+            side.house.tick(1);
+            side.house.receive();
+        }
+        side.sent("ready 3");
+        Probe.is("30 lines, and none of the next DRAFT", side.house.runs(3, 0), 30);
+        Probe.is("not ready yet", side.house.runs(4, 0), 0);
+        side.sent("ready 4");
+        Probe.is("it stayed", side.house.runs(4, 0), 1);
+        side.sent("line 3 28 end");
+        side.sent("line 3 29 end");
+        side.sent("ready 3");
+        Probe.is("the DRAFT was empty to its last line", side.house.runs(3, 0), 30);
+        side.house.tick(1);
+        side.house.receive();
+        for (int n = 0; n < 28; n++) {
+            side.sent("line 3 " + n + " end");
+            side.house.tick(1);
+            side.house.receive();
+        }
+        side.sent("ready 3");
+        Probe.is("30 lines again", side.house.runs(3, 0), 30);
+        for (int n = 0; n < 29; n++) {
+            side.sent("line 3 " + n + " end");
+            side.house.tick(1);
+            side.house.receive();
+        }
+        side.sent("ready 3");
+        Probe.is("29 lines", side.house.runs(3, 0), 29);
     }
 
     private static void ready() {
@@ -499,7 +523,7 @@ final class EdgesCommands {
         p.house.tick(1);
         p.house.receive();
         Probe.is("ACCEPTED", p.sent("ready 5"), 1);
-        ship(p, 3, 0);
+        p.awaits(3, 0);
         Probe.is("lines", p.house.runs(5, 0), 2);
         p.state(5, 1, 1, 90);
         p.sent("line 5 1 set v1 1");

@@ -1,3 +1,5 @@
+import java.util.Arrays;
+
 /** Of Part VII THE GROUND, and promises 25, 26 and 29: receive, packet, ground. */
 final class EdgesGround {
     static void all() {
@@ -32,7 +34,7 @@ final class EdgesGround {
         Probe.is("none", p.house.receive(), -1);
         Twins.refused("none waits", () -> {
             Probe busy = Twins.busy();
-            while (busy.house.ship(14) > 0) {
+            for (int i = busy.house.ship(14); i > 0; i--) {
                 busy.house.receive();
             }
             return busy;
@@ -60,7 +62,7 @@ final class EdgesGround {
         p.house.tick(2);
         p.house.noise(5, 4);
         Probe.is("BAD, with a PACKET under way", p.house.receive(), -2);
-        p.forge(0, java.util.Arrays.copyOf(next, 22));
+        p.forge(0, Arrays.copyOf(next, 22));
         Probe.is("what it was piecing stays", p.house.receive(), 1);
         Probe.is("and the COUNT of the one before", p.house.ground(0), 0);
         Probe.is("whole", p.house.packet(2), 6);
@@ -204,7 +206,7 @@ final class EdgesGround {
             int[] bytes = new int[19];
             int[] head = {0, 10, 30, 31, 32, n};
             System.arraycopy(head, 0, bytes, 0, 6);
-            java.util.Arrays.fill(bytes, 6, 19, 50);
+            Arrays.fill(bytes, 6, 19, 50);
             int[] next = {11, 1, 2, 3, 1, 9};
             System.arraycopy(next, 0, bytes, isNumber ? 6 + n : 6, 6);
             Probe p = Probe.sending(2).forge(3, bytes);

@@ -9,6 +9,8 @@ final class EdgesLink {
         countsAround();
         clockAround();
         recorderRoom();
+        comingAndGoing();
+        sideBySide();
         whichGoes();
         bothMayBe();
         sentFirst();
@@ -169,6 +171,85 @@ final class EdgesLink {
         Probe.is("301 less 9", one.house.ship(9), 292);
     }
 
+    /** PACKETS of all KINDS come and go for long: each comes down as it was made. */
+    private static void comingAndGoing() {
+        Probe p = Probe.sending(0);
+        int[] next = new int[16];
+        int whole = 0;
+        for (int round = 0; round < 6; round++) {
+            p.program(0, "emit 3\nadd v3 1\nemit 15\nadd v3 1\nemit 7\nadd v3 1\nemit 11\nadd v3 1\nemit 0\nemit 12\nemit 4\nemit 8\nadd v0 1\n");
+            p.house.due(p.house.ship(0) + 1, 0);
+            p.house.station(0, 0, 0, 0);
+            p.house.tick(2);
+            p.house.station(0, 0, 3600, 0);
+            p.house.tick(6);
+            for (int i = 0; i < 6; i++) {
+                p.house.receive();
+            }
+            for (int n : new int[] {3, 0, 7, 4, 11, 8, 15, 12}) {
+                Probe.is("bytes", p.house.packet(whole), 6 + n % 4);
+                Probe.is("KIND", p.house.out(0) - 10, n);
+                Probe.is("COUNT", p.house.out(1), next[n]++);
+                Probe.is("V0", p.house.out(5), round);
+                if (n % 4 == 3) {
+                    Probe.is("V3", p.house.out(8), 4 * round + (n == 3 ? 0 : n == 15 ? 1 : n == 7 ? 2 : 3));
+                }
+                whole++;
+            }
+            rotate(p);
+        }
+        Probe full = new Probe();
+        full.program(0, "emit 15\nadd v3 1\nadd v0 3\nif v3 < 33 go 0\n");
+        full.house.due(1, 0);
+        full.house.tick(17);
+        Probe.is("33 of 9 bytes", full.house.ship(9), 297);
+        Probe.is("no EVENT", full.house.ship(6), 0);
+        sentDown(full);
+        for (int i = 0; i < 33; i++) {
+            full.house.packet(i);
+            Probe.is("V0 of " + i, full.house.out(5), 3 * i);
+            Probe.is("V3 of " + i, full.house.out(8), i);
+        }
+    }
+
+    /** As many of one n / 4 as come to the last place that they may have, and one of another. */
+    private static void sideBySide() {
+        for (int one = 0; one < 16; one += 4) {
+            for (int other = 0; other < 16; other += 4) {
+                Probe p = new Probe();
+                record(p, one, 49);
+                Probe.is("294 bytes", p.house.ship(9), 294);
+                sentDown(p);
+                p.program(0, "set v0 1\nemit " + one + "\nset v0 2\nemit " + other + "\nset v0 3\nemit " + one + "\n");
+                p.house.due(p.house.ship(0) + 1, 0);
+                p.house.tick(1);
+                p.sent("on 0");
+                p.house.tick(1);
+                p.house.receive();
+                int[] due = other < one ? new int[] {2, 1, 3} : other == one ? new int[] {1, 2, 3} : new int[] {1, 3, 2};
+                for (int i = 0; i < 3; i++) {
+                    p.house.packet(49 + i);
+                    Probe.is(one + " and " + other, p.house.out(5), due[i]);
+                }
+            }
+        }
+    }
+
+    /** So many go through the RECORDER, and are lost on their way, that places of it are used again. */
+    private static void rotate(Probe p) {
+        for (int kind : new int[] {1, 5, 9, 13}) {
+            p.program(6, ("emit " + kind + "\n").repeat(30));
+            p.house.due(p.house.ship(0) + 1, 6);
+            p.house.tick(16);
+        }
+        for (int i = p.house.ship(14); i > 0; i--) {
+            p.house.lose();
+        }
+        Probe.is("none is left", p.house.ship(10), 0);
+        p.house.tick(1);
+        p.house.receive();
+    }
+
     private static void whichGoes() {
         for (int there = 0; there < 4; there++) {
             for (int own = 0; own < 4; own++) {
@@ -295,7 +376,7 @@ final class EdgesLink {
     }
 
     private static void loseAll(Probe p) {
-        while (p.house.ship(14) > 0) {
+        for (int i = p.house.ship(14); i > 0; i--) {
             p.house.lose();
         }
     }

@@ -62,6 +62,13 @@ final class EdgesPlans {
         Probe.is("refused", house.gap(-1), -1);
         Probe.is("what it was", house.gap(0), 999);
         Probe.is("what it was", house.gap(0), 0);
+        house.pass(0, 0, 10, 3);
+        house.pass(1, 15, 20, 4);
+        Probe.is("GAP 0", house.best(100), 7);
+        house.gap(6);
+        Probe.is("GAP 6", house.best(100), 4);
+        house.gap(5);
+        Probe.is("GAP 5", house.best(100), 7);
     }
 
     private static int both(int gap, int station, int from, int to, boolean turned) {
@@ -226,40 +233,34 @@ final class EdgesPlans {
         }
     }
 
-    private static void way(Probe p, int column, int row, int toColumn, int toRow, String due) {
-        String what = column + " " + row + " to " + toColumn + " " + toRow;
-        Probe.is(what, p.house.way(column, row, toColumn, toRow), due.length());
-        Probe.is(what, p.out(), due);
-    }
-
     private static void turns() {
         Doc.says("Part X", "A TURN goes to the next FIELD left, right, up (row less one) or down.");
         Probe p = new Probe();
-        way(p, 5, 5, 4, 5, "l");
-        way(p, 5, 5, 6, 5, "r");
-        way(p, 5, 5, 5, 4, "u");
-        way(p, 5, 5, 5, 6, "d");
-        way(p, 5, 5, 6, 6, "rd");
+        p.way(5, 5, 4, 5, "l");
+        p.way(5, 5, 6, 5, "r");
+        p.way(5, 5, 5, 4, "u");
+        p.way(5, 5, 5, 6, "d");
+        p.way(5, 5, 6, 6, "rd");
         Doc.says("Promise 35", "The WAY from a FIELD to another one: how many TURNS; they are written (u l r d).");
-        way(p, 5, 5, 5, 5, "");
-        way(p, 0, 0, 12, 11, "l".repeat(12) + "d".repeat(11));
-        way(p, 12, 11, 0, 0, "u".repeat(11) + "l".repeat(12));
+        p.way(5, 5, 5, 5, "");
+        p.way(0, 0, 12, 11, "l".repeat(12) + "d".repeat(11));
+        p.way(12, 11, 0, 0, "u".repeat(11) + "l".repeat(12));
     }
 
     private static void around() {
         Doc.says("Part X", "The sky has 24 columns, that go round, and 12 rows (0 .. 11, that do not); FIELDS are barred or not.");
         Probe p = new Probe();
         for (int row = 0; row < 12; row++) {
-            way(p, 0, row, 23, row, "l");
-            way(p, 23, row, 0, row, "r");
-            way(p, 0, row, 12, row, "l".repeat(12));
-            way(p, 0, row, 11, row, "r".repeat(11));
-            way(p, 0, row, 13, row, "l".repeat(11));
-            way(p, 23, row, 10, row, "r".repeat(11));
+            p.way(0, row, 23, row, "l");
+            p.way(23, row, 0, row, "r");
+            p.way(0, row, 12, row, "l".repeat(12));
+            p.way(0, row, 11, row, "r".repeat(11));
+            p.way(0, row, 13, row, "l".repeat(11));
+            p.way(23, row, 10, row, "r".repeat(11));
         }
         for (int column = 0; column < 24; column++) {
-            way(p, column, 0, column, 11, "d".repeat(11));
-            way(p, column, 11, column, 0, "u".repeat(11));
+            p.way(column, 0, column, 11, "d".repeat(11));
+            p.way(column, 11, column, 0, "u".repeat(11));
         }
         Probe ring = new Probe();
         for (int column = 0; column < 24; column++) {
@@ -268,13 +269,13 @@ final class EdgesPlans {
         Probe.is("rows do not go round", ring.house.way(0, 0, 0, 11), -1);
         Probe.is("rows do not go round", ring.house.way(0, 11, 0, 0), -1);
         ring.house.bar(23, 6, false);
-        way(ring, 0, 5, 0, 7, "lddr");
+        ring.way(0, 5, 0, 7, "lddr");
         Probe wall = new Probe();
         for (int row = 0; row < 12; row++) {
             wall.house.bar(0, row, true);
         }
-        way(wall, 1, 4, 23, 4, "r".repeat(22));
-        way(wall, 23, 4, 1, 4, "l".repeat(22));
+        wall.way(1, 4, 23, 4, "r".repeat(22));
+        wall.way(23, 4, 1, 4, "l".repeat(22));
     }
 
     private static void wayRefused() {
@@ -287,14 +288,14 @@ final class EdgesPlans {
             Probe.is("a corner", new MissionHouse().way(corner[0], corner[1], corner[0], corner[1]), 0);
         }
         Probe p = new Probe();
-        way(p, 5, 5, 6, 5, "r");
+        p.way(5, 5, 6, 5, "r");
         for (int[] side : new int[][] {{4, 5}, {6, 5}, {5, 4}, {5, 6}}) {
             p.house.bar(side[0], side[1], true);
         }
         Probe.is("shut in", p.house.way(5, 5, 0, 0), -1);
         Probe.is("shut out", p.house.way(0, 0, 5, 5), -1);
         Probe.is("what was written stays", p.out(), "r");
-        way(p, 5, 5, 5, 5, "");
+        p.way(5, 5, 5, 5, "");
         p.house.bar(5, 4, false);
         Probe.is("a way again", p.house.way(5, 5, 5, 0), 5);
         Twins.refused("barred", Twins::busy, -1, house -> house.way(3, 5, 0, 0));
@@ -308,9 +309,9 @@ final class EdgesPlans {
         Probe.is("from a barred one", p.house.way(5, 5, 6, 5), -1);
         Probe.is("to a barred one", p.house.way(6, 5, 5, 5), -1);
         Probe.is("from it to itself", p.house.way(5, 5, 5, 5), -1);
-        way(p, 4, 5, 6, 5, "urrd");
+        p.way(4, 5, 6, 5, "urrd");
         p.house.bar(5, 5, false);
-        way(p, 4, 5, 6, 5, "rr");
+        p.way(4, 5, 6, 5, "rr");
         Probe comb = new Probe();
         for (int column = 1; column < 24; column += 2) {
             for (int row = 0; row < 12; row++) {
@@ -321,27 +322,27 @@ final class EdgesPlans {
         for (int column = 0; column < 22; column += 2) {
             due.append((column % 4 == 0 ? "d" : "u").repeat(11)).append("rr");
         }
-        way(comb, 0, 0, 22, 0, due + "u".repeat(11));
+        comb.way(0, 0, 22, 0, due + "u".repeat(11));
     }
 
     private static void firstOfThem() {
         Doc.says("Part X", "of those it is the first by its TURNS in the order up, left, right, down.");
         Probe p = new Probe();
-        way(p, 5, 5, 4, 4, "ul");
-        way(p, 5, 5, 6, 4, "ur");
-        way(p, 5, 5, 4, 6, "ld");
-        way(p, 5, 5, 6, 6, "rd");
-        way(p, 5, 5, 17, 5, "l".repeat(12));
-        way(p, 5, 5, 17, 4, "u" + "l".repeat(12));
-        way(p, 5, 5, 17, 6, "l".repeat(12) + "d");
+        p.way(5, 5, 4, 4, "ul");
+        p.way(5, 5, 6, 4, "ur");
+        p.way(5, 5, 4, 6, "ld");
+        p.way(5, 5, 6, 6, "rd");
+        p.way(5, 5, 17, 5, "l".repeat(12));
+        p.way(5, 5, 17, 4, "u" + "l".repeat(12));
+        p.way(5, 5, 17, 6, "l".repeat(12) + "d");
         p.house.bar(5, 4, true);
-        way(p, 5, 5, 4, 4, "lu");
-        way(p, 5, 5, 5, 3, "luur");
+        p.way(5, 5, 4, 4, "lu");
+        p.way(5, 5, 5, 3, "luur");
         p.house.bar(4, 5, true);
-        way(p, 5, 5, 5, 3, "ruul");
+        p.way(5, 5, 5, 3, "ruul");
         p.house.bar(6, 5, true);
-        way(p, 5, 5, 5, 3, "dlluuurr");
+        p.way(5, 5, 5, 3, "dlluuurr");
         p.house.bar(4, 6, true);
-        way(p, 5, 5, 5, 3, "drruuull");
+        p.way(5, 5, 5, 3, "drruuull");
     }
 }

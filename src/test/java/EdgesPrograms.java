@@ -71,6 +71,25 @@ final class EdgesPrograms {
             p.variable(1, 1);
             p.state(k, 0, -1, 0);
         }
+        Probe side = new Probe();
+        for (int k = 0; k < 8; k++) {
+            side.program(k, ("add v" + k + " 1\n").repeat(30));
+        }
+        for (int k = 0; k < 8; k++) {
+            Probe.is("each has 30", side.house.runs(k, 0), 30);
+            side.house.due(1, k);
+        }
+        side.house.tick(4);
+        for (int k = 0; k < 8; k++) {
+            side.variable(k, 30);
+            side.state(k, 0, -1, 0);
+        }
+        Probe fewer = Probe.begun("set v1 1\n".repeat(30));
+        Probe.is("one less", fewer.program(0, "end\n".repeat(29)), 29);
+        Probe.is("one less", fewer.house.runs(0, 0), 29);
+        fewer.program(0, "go 29\n");
+        fewer.house.tick(1);
+        fewer.variable(1, 0);
         Probe last = Probe.begun("go 29\n" + "end\n".repeat(28) + "set v1 1\n");
         last.program(1, "set v2 1\n");
         last.house.tick(1);
@@ -351,6 +370,20 @@ final class EdgesPrograms {
         Probe between = Probe.begun("set v0 1\nend\nset v1 1\n");
         between.house.tick(9);
         between.variable(1, 0);
+        for (String line : new String[] {"end\n", "go 29\n", "add v1 1\n", "kill 1\n", "mode 3\n", "until v2 = 0\n", "if v2 = 0 go 0\n", "add v2 1\n", "emit 2\n"}) {
+            Probe p = new Probe();
+            p.program(0, "add v0 1\n".repeat(30));
+            p.program(1, line);
+            p.program(2, "add v0 1\n".repeat(30));
+            p.house.flip(2, 3);
+            p.house.flip(2, 5);
+            p.house.due(1, 1);
+            p.house.tick(2);
+            p.variable(0, 0);
+            p.state(0, 0, -1, 0);
+            p.state(1, 0, -1, 0);
+            p.state(2, 0, -1, 0);
+        }
         Probe behind = Probe.begun("add v0 1\n".repeat(30));
         behind.program(1, "set v1 1\n");
         behind.house.tick(5);

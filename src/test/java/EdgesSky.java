@@ -9,6 +9,7 @@ final class EdgesSky {
         shadows();
         arcs();
         sights();
+        everySecond();
         within();
     }
 
@@ -87,8 +88,8 @@ final class EdgesSky {
     }
 
     private static void goTo(MissionHouse house, int clock) {
-        while (house.ship(0) < clock) {
-            house.tick(Math.min(500, clock - house.ship(0)));
+        for (int left = clock - house.ship(0); left > 0; left -= 500) {
+            house.tick(Math.min(500, left));
         }
     }
 
@@ -189,6 +190,31 @@ final class EdgesSky {
         house.station(1, 0, 0, 77);
         Probe.is("never seen", house.sight(1, false), -1);
         Probe.is("always unseen", house.sight(1, true), 15);
+    }
+
+    /** Each answer looked for second by second, as the document tells it. */
+    private static void everySecond() {
+        for (int period : new int[] {60, 61, 77, 101, 999, 3599, 3600, 3601, 5400, 7001, 19999, 20000}) {
+            for (int i = 0; i < 40; i++) {
+                int from = (i * 997 + 3590) % 3600;
+                int width = i % 5 == 0 ? i / 5 : i % 5 == 1 ? 3600 - i / 5 : i * 90;
+                int drift = i % 3 == 0 ? 0 : i % 3 == 1 ? 3599 - i : i * 71;
+                int clock = i % 4 * 333;
+                MissionHouse house = new MissionHouse();
+                house.orbit(period, i * 91, 0, 0);
+                house.station(i % 4, from, width, drift);
+                goTo(house, clock);
+                for (boolean behind : new boolean[] {false, true}) {
+                    int due = -1;
+                    for (int t = clock + 20000; t >= clock; t--) {
+                        long angle = i * 91 + 3600L * (t % period) / period;
+                        boolean sees = Math.floorMod(angle - from - (long) (t / period) * drift, 3600L) < width;
+                        due = sees != behind ? t : due;
+                    }
+                    Probe.is("period " + period + " from " + from + " width " + width + " drift " + drift + " at " + clock, house.sight(i % 4, behind), due);
+                }
+            }
+        }
     }
 
     /** 5.55 seconds a degree: degree d begins at the first second that is not less than 50 d / 9. */

@@ -108,8 +108,8 @@ final class EdgesTexts {
         }
         Twins.refused("feed", () -> {
             Probe p = Twins.busy();
-            while (p.house.feed(1, 2, 3, 4, 5) != MissionHouse.FULL) {
-                p.house.end(p.house.feed(1, 2, 3, 4, 5));
+            for (int i = 0; i < 79; i++) {
+                p.house.feed(1, 2, 3, 4, 5);
             }
             return p;
         }, MissionHouse.FULL, house -> house.feed(9, 9, 9, 9, 9));
@@ -266,6 +266,12 @@ final class EdgesTexts {
             for (String value : new String[] {"100000", "-100000", "999999999", "-999999999"}) {
                 wrong(n[0], n[1] + value + n[2], n[1].length());
             }
+        }
+        for (String not : new String[] {"-0", "-1", "00", "x"}) {
+            wrong("monitor", not + " = 1", 0);
+            wrong("monitor", "rec" + not + " = 1", not.startsWith("-") ? 3 : 0);
+            wrong("monitor", "rec " + not + " 1", 4);
+            wrong("monitor", "rec =" + not, 5);
         }
         for (int b = 0; b < 256; b++) {
             String text = "rec " + (char) b + " 1";

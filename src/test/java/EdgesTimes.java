@@ -126,6 +126,8 @@ final class EdgesTimes {
         Probe.is("the next one", Twins.busy().house.leap(2004, 6), 3);
         MissionHouse year = new MissionHouse();
         year.leap(2010, 6);
+        Probe.is("the only one once more", year.leap(2010, 6), -1);
+        Probe.is("ahead of the only one", year.leap(2009, 12), -1);
         Probe.is("of the same year", year.leap(2010, 12), 2);
         Probe.is("behind December", year.leap(2010, 6), -1);
     }
@@ -234,6 +236,14 @@ final class EdgesTimes {
             Probe.is("written " + second, new MissionHouse().written(second), -1);
         }
         written(p, ALL - 1, "2059-12-31T23:59:59");
+        for (int hour = 0; hour < 24; hour++) {
+            Probe q = new Probe();
+            for (int second : new int[] {0, 1, 59, 60, 61, 3539, 3540, 3599}) {
+                String time = String.format("%02d:%02d:%02d", hour, second / 60, second % 60);
+                written(q, 86400 + hour * 3600 + second, "2000-01-02T" + time);
+                Probe.is("and back", q.date("2000-01-02T" + time), 86400 + hour * 3600 + second);
+            }
+        }
         Twins.refused("below 0", Twins::busy, -1, house -> house.written(-1));
         Twins.refused("behind the last", Twins::busy, -1, house -> house.written(ALL + 2));
         Probe.is("the last, with two leaps", Twins.busy().house.written(ALL + 1), 19);

@@ -2,6 +2,8 @@ import java.nio.charset.StandardCharsets;
 
 /** A house under test: feeds texts, reads THE OUT, and notes each answer that is not the one that is due. */
 final class Probe {
+    /** More than is ever written: a wrong program must not hold up the tests. */
+    private static final int MOST_OUT = 2000;
     private static int wrong;
     private static int asked;
     private static String about = "";
@@ -136,13 +138,31 @@ final class Probe {
         is("waits " + k, house.runs(k, 3), waits);
     }
 
+    /** How many commands are kept, how many of them are to be sent, and the next number. */
+    void commands(int kept, int toSend, int next) {
+        is("kept", house.ground(3), kept);
+        is("to be sent", house.ground(4), toSend);
+        is("the next number", house.ground(5), next);
+    }
+
+    void awaits(int number, int flags) {
+        is("awaited", house.ship(11), number);
+        is("FLAGS", house.ship(12), flags);
+    }
+
+    void way(int column, int row, int toColumn, int toRow, String due) {
+        String what = "way " + column + " " + row + " to " + toColumn + " " + toRow;
+        is(what, house.way(column, row, toColumn, toRow), due.length());
+        is(what, out(), due);
+    }
+
     void variable(int v, int due) {
         is("v" + v, house.word(v, 1), due);
     }
 
     String out() {
         StringBuilder text = new StringBuilder();
-        for (int i = 0; house.out(i) != MissionHouse.NONE; i++) {
+        for (int i = 0; i < MOST_OUT && house.out(i) != MissionHouse.NONE; i++) {
             text.append((char) house.out(i));
         }
         return text.toString();
@@ -150,7 +170,7 @@ final class Probe {
 
     String outNumbers() {
         StringBuilder text = new StringBuilder();
-        for (int i = 0; house.out(i) != MissionHouse.NONE; i++) {
+        for (int i = 0; i < MOST_OUT && house.out(i) != MissionHouse.NONE; i++) {
             text.append(i == 0 ? "" : " ").append(house.out(i));
         }
         return text.toString();

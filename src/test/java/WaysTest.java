@@ -39,27 +39,22 @@ final class WaysTest {
         Probe.is("from one to itself", house.way(4, 5, 4, 5), 0);
     }
 
-    private static void way(Probe p, int column, int row, int toColumn, int toRow, String due) {
-        Probe.is("turns", p.house.way(column, row, toColumn, toRow), due.length());
-        Probe.is("way", p.out(), due);
-    }
-
     private static void ways() {
         Probe p = new Probe();
-        way(p, 3, 3, 3, 2, "u");
-        way(p, 3, 3, 2, 3, "l");
-        way(p, 3, 3, 4, 3, "r");
-        way(p, 3, 3, 3, 4, "d");
-        way(p, 3, 3, 1, 1, "uull");
-        way(p, 3, 3, 5, 1, "uurr");
-        way(p, 3, 3, 1, 5, "lldd");
-        way(p, 3, 3, 5, 5, "rrdd");
-        way(p, 23, 0, 0, 0, "r");
-        way(p, 0, 11, 23, 11, "l");
-        way(p, 0, 0, 12, 0, "l".repeat(12));
-        way(p, 0, 0, 11, 0, "r".repeat(11));
-        way(p, 0, 0, 13, 0, "l".repeat(11));
-        way(p, 0, 0, 0, 11, "d".repeat(11));
+        p.way(3, 3, 3, 2, "u");
+        p.way(3, 3, 2, 3, "l");
+        p.way(3, 3, 4, 3, "r");
+        p.way(3, 3, 3, 4, "d");
+        p.way(3, 3, 1, 1, "uull");
+        p.way(3, 3, 5, 1, "uurr");
+        p.way(3, 3, 1, 5, "lldd");
+        p.way(3, 3, 5, 5, "rrdd");
+        p.way(23, 0, 0, 0, "r");
+        p.way(0, 11, 23, 11, "l");
+        p.way(0, 0, 12, 0, "l".repeat(12));
+        p.way(0, 0, 11, 0, "r".repeat(11));
+        p.way(0, 0, 13, 0, "l".repeat(11));
+        p.way(0, 0, 0, 11, "d".repeat(11));
         p.house.way(0, 0, 24, 0);
         Probe.is("out stays if there is none", p.out(), "d".repeat(11));
     }
@@ -69,23 +64,23 @@ final class WaysTest {
         for (int row = 0; row < 12; row++) {
             p.house.bar(6, row, true);
         }
-        way(p, 5, 0, 7, 0, "l".repeat(22));
+        p.way(5, 0, 7, 0, "l".repeat(22));
         p.house.bar(6, 11, false);
-        way(p, 5, 10, 7, 10, "drru");
+        p.way(5, 10, 7, 10, "drru");
         for (int row = 0; row < 12; row++) {
             p.house.bar(18, row, true);
         }
-        way(p, 5, 0, 7, 0, "d".repeat(11) + "rr" + "u".repeat(11));
-        way(p, 7, 0, 5, 0, "d".repeat(11) + "ll" + "u".repeat(11));
+        p.way(5, 0, 7, 0, "d".repeat(11) + "rr" + "u".repeat(11));
+        p.way(7, 0, 5, 0, "d".repeat(11) + "ll" + "u".repeat(11));
         p.house.bar(6, 11, true);
         Probe.is("no way", p.house.way(5, 0, 7, 0), -1);
         Probe up = new Probe();
         up.house.bar(4, 4, true);
-        way(up, 3, 4, 5, 4, "urrd");
+        up.way(3, 4, 5, 4, "urrd");
         up.house.bar(4, 3, true);
-        way(up, 3, 4, 5, 4, "drru");
+        up.way(3, 4, 5, 4, "drru");
         up.house.bar(4, 5, true);
-        way(up, 3, 4, 5, 4, "uurrdd");
+        up.way(3, 4, 5, 4, "uurrdd");
     }
 
     /** A comb: the longest of the fewest turns. */
@@ -103,6 +98,6 @@ final class WaysTest {
             due.append((column % 4 == 0 ? "d" : "u").repeat(11)).append("rr");
         }
         due.append("u".repeat(11));
-        way(p, 0, 0, 22, 0, due.toString());
+        p.way(0, 0, 22, 0, due.toString());
     }
 }
