@@ -101,6 +101,41 @@ final class FaceTest {
         }
         Probe.is("no lambda", code.contains("->") ? 1 : 0, 0);
         Probe.is("no method reference", code.contains("::") ? 1 : 0, 0);
+        // rule 4: the library; rule 12: what a run makes
+        Probe.is("no library but java.util.Arrays", code.replace("import java.util.Arrays;", "").matches("(?s).*\\b(import|java)\\b.*") ? 1 : 0, 0);
+        Probe.is("nothing is made but by constructors", madeByCalls(code), 0);
+        Probe.is("methods of at most sixty lines", Math.max(60, longestMethod(text)), 60);
+    }
+
+    /** Lines with 'new' that are neither a field's first value nor in a constructor. */
+    private static int madeByCalls(String code) {
+        int found = 0;
+        boolean inConstructor = false;
+        for (String line : code.split("\n")) {
+            if (line.matches(" +(public )?[A-Z]\\w*\\(.*\\) \\{")) {
+                inConstructor = true;
+            } else if (line.matches(" {4}( {4})?\\}")) {
+                inConstructor = false;
+            }
+            boolean isField = line.matches(" +(private )?final [\\w\\[\\]]+ \\w+ = new .*");
+            if (line.matches(".*\\bnew\\b.*") && !isField && !inConstructor) {
+                found++;
+            }
+        }
+        return found;
+    }
+
+    private static int longestMethod(String text) {
+        int longest = 0;
+        int length = 0;
+        for (String line : text.split("\n")) {
+            length = line.matches(" {4}( {4})?[\\w\\[\\] ]+\\(.*\\) \\{") ? 1 : length + 1;
+            if (line.matches(" {4}( {4})?\\}")) {
+                longest = Math.max(longest, length);
+                length = 0;
+            }
+        }
+        return longest;
     }
 
     /** Calls by any arguments, far more than 512 of them: none may throw. */
